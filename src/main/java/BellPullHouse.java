@@ -547,21 +547,26 @@ public final class BellPullHouse {
             return fail(NO_SUCH_THING);
         }
         trial.copyFrom(house);
-        for (int gone = 0; gone < MOST_DAYS_AHEAD && trial.isHolding(couple); gone++) {
-            days.pass(trial, 1);
+        int gone = 0;
+        for (int span = 0; span < MOST_DAYS_AHEAD && trial.isHolding(couple); span++) {
+            days.passSpan(trial, MOST_DAYS_AHEAD - gone);
+            gone = trial.day - house.day;
         }
-        return trial.isHolding(couple) ? fail(THERE_IS_NONE) : answer(trial.day - house.day);
+        return trial.isHolding(couple) ? fail(THERE_IS_NONE) : answer(gone);
     }
 
     public int silentIn(int couple) {
         if (!house.isCouple(couple)) {
             return fail(NO_SUCH_THING);
         }
+        // Of all that a DAY does, only the stretching bears upon who is RUNG.
         trial.copyFrom(house);
-        for (int gone = 0; gone < MOST_DAYS_AHEAD && trial.isRung(couple); gone++) {
-            days.pass(trial, 1);
+        int gone = 0;
+        while (gone < MOST_DAYS_AHEAD && trial.isRung(couple) && trial.isStretching()) {
+            trial.stretchAll();
+            gone++;
         }
-        return trial.isRung(couple) ? fail(THERE_IS_NONE) : answer(trial.day - house.day);
+        return trial.isRung(couple) ? fail(THERE_IS_NONE) : answer(gone);
     }
 
     public int holdIn(int days) {
@@ -1166,19 +1171,27 @@ public final class BellPullHouse {
         /** The set of COUPLES that PARTED. */
         int pass(House h, int many) {
             int parted = 0;
-            int left = many;
-            while (left > 0) {
-                for (int c = 0; c < h.couples; c++) {
-                    whom[c] = h.isHolding(c) ? h.answerOf(c) : NONE;
-                }
-                int span = Math.max(1, alikeDays(h, left));
-                parted |= loveThrough(h, span);
-                if (h.isStretching()) {
-                    h.stretchAll();
-                }
-                h.day += span;
-                left -= span;
+            int last = h.day + many;
+            for (int span = 0; span < many && h.day < last; span++) {
+                parted |= passSpan(h, last - h.day);
             }
+            return parted;
+        }
+
+        /** One DAY and those behind it that are alike, so many at most; those who PARTED, on the last. */
+        int passSpan(House h, int most) {
+            if (most < 1) {
+                return 0;
+            }
+            for (int c = 0; c < h.couples; c++) {
+                whom[c] = h.isHolding(c) ? h.answerOf(c) : NONE;
+            }
+            int span = Math.max(1, alikeDays(h, most));
+            int parted = loveThrough(h, span);
+            if (h.isStretching()) {
+                h.stretchAll();
+            }
+            h.day += span;
             return parted;
         }
 
@@ -1627,7 +1640,11 @@ public final class BellPullHouse {
                     turnsLeft[row] = y.number[row];
                     break;
                 case W_DAY:
-                    done = passDays(h, y.number[row]);
+                    done = h.day + y.number[row] <= LAST_DAY;
+                    if (done) {
+                        told[PARTED] += Integer.bitCount(days.pass(h, y.number[row]));
+                        told[DAYS] += y.number[row];
+                    }
                     break;
                 case W_DAMP:
                     done = turnDamp(h, true);
@@ -1674,15 +1691,6 @@ public final class BellPullHouse {
         }
 
         // What is done for a plain STEP; false if it is MISSED.
-
-        private boolean passDays(House h, int many) {
-            if (h.day + many > LAST_DAY) {
-                return false;
-            }
-            told[PARTED] += Integer.bitCount(days.pass(h, many));
-            told[DAYS] += many;
-            return true;
-        }
 
         private static boolean turnDamp(House h, boolean is) {
             boolean turns = h.damp != is;
