@@ -1038,7 +1038,7 @@ public final class BellPullHouse {
                 lengths[r * MOST_ROOMS + r] = 0;
             }
             for (int w = 0; w < wires; w++) {
-                if (isWhole(w)) {
+                if ((whole >> w & 1) != 0) {
                     int there = from[w] * MOST_ROOMS + to[w];
                     int length = Math.min(lengths[there], 1 + slack[w]);
                     lengths[there] = length;

@@ -338,10 +338,23 @@ public final class PromiseTest {
             six.append("couple c").append((char) ('a' + i)).append(" he a she b love 1;");
         }
         faultOfHouse(six + "couple 5;", 6, six.length());
+        shortOf("power 99999;", 7, 2, 7);
+        shortOf("rooms a;", 4, 2, 4);
+        shortOf("room a;    ", 6, 2, 6);
+        shortOf("room a;   !", 6, 2, 6);
         BellPullHouse x = with(six.toString());
         due("13 rooms", x.many(0), 8);
         due("13 wires", x.many(1), 10);
         due("13 couples", x.many(2), 6);
+    }
+
+    /** What stands behind the first n bytes does not matter. */
+    private static void shortOf(String s, int n, int kind, int place) {
+        BellPullHouse x = new BellPullHouse();
+        feed(x, s);
+        no(x, "10 the first " + n + " of " + s, x.house(n), 10);
+        due("12 kind", x.fault(0), kind);
+        due("12 place", x.fault(1), place);
     }
 
     private static void yearsTexts() {
@@ -497,6 +510,12 @@ public final class PromiseTest {
         due("52 DAYS", x.lived(1), 1);
         due("17 day 9,999", x.many(5), 9999);
         no(x, "17 above 9,999", x.day(1), 7);
+        BellPullHouse y = with("room a; couple m he a she a love 2;");
+        for (int i = 0; i < 100; i++) {
+            y.day(99);
+        }
+        no(y, "17 nor that from 9,900", y.day(99) < 0 ? 0 : y.day(1), 7);
+        due("17 day 9,999 by day()", y.many(5), 9999);
         due("50 faith", x.faith(0), true);
         due("50 top", x.top(), 1);
         due("50 bottom", x.bottom(), 1);
@@ -936,6 +955,9 @@ public final class PromiseTest {
         y.live(0);
         due("52 SLACK above 9", y.lived(0), 1);
         due("51 9", y.wire(1, 2), 9);
+        BellPullHouse one = with("odds 0; room a; room b; wire w from a to b;", "any;");
+        due("51 any of one WIRE", one.live(3), 1);
+        due("51 slack", one.wire(0, 2), 1);
         BellPullHouse z = with("room a;", "any;");
         due("51 any without WIRES", z.live(5), 1);
         due("52 MISSED", z.lived(0), 1);
