@@ -11,6 +11,10 @@ public final class BoundaryAskedTest {
             + "wire p from a to b slack 9;wire q from b to c slack 9;wire r from c to d slack 9;wire s from d to e slack 9;"
             + "wire t from e to f slack 9;wire u from f to g slack 9;wire v from g to h slack 9;"
             + "couple m he a she h love 9;";
+    /** The WIRES of the longest way are told from its far end on, half of them the other way about. */
+    private static final String BACKWARD = "power 70;odds 1;" + ROOMS
+            + "wire v from g to h slack 9;wire u from g to f slack 9;wire t from e to f slack 9;wire s from e to d slack 9;"
+            + "wire r from c to d slack 9;wire q from c to b slack 9;wire p from a to b slack 9;couple m he a she h love 9;";
     /** 0: FAR 3, RUNG; 1: FAR 4, just RUNG; 2: FAR 6, not RUNG. */
     private static final String THREE = "power 4;odds 4;room a;room b;room c;room d;"
             + "wire u from a to b slack 1;wire v from b to c;wire w from d to c slack 2;"
@@ -37,6 +41,7 @@ public final class BoundaryAskedTest {
 
     public static void main(String[] args) {
         lengths();
+        waysByTheFirstRoom();
         heardPulls();
         rungBells();
         todaysAnswers();
@@ -212,6 +217,65 @@ public final class BoundaryAskedTest {
             ok(x, "about", x.far(0, 2), 2);
             x.stretch(0, 0);
             ok(x, "the WIRE itself", x.far(0, 2), 1);
+        });
+    }
+
+    private static void waysByTheFirstRoom() {
+        String byFirst = "power 2;room a;room b;room c;wire u from b to a;wire v from a to c;couple m he b she c love 1;";
+        test("27, 31: a way by the first ROOM", () -> {
+            BellPullHouse x = with(byFirst);
+            ok(x, "far", x.far(1, 2), 2);
+            ok(x, "RUNG", x.many(9), 1);
+            isWay(x, 1, 2, 1, 0, 2);
+            isWay(x, 2, 1, 2, 0, 1);
+        });
+        test("27, 31: a way by the last ROOM", () -> {
+            BellPullHouse x = with("room a;room b;room c;wire u from b to c;wire v from a to c;");
+            ok(x, "far", x.far(0, 1), 2);
+            isWay(x, 0, 1, 0, 2, 1);
+        });
+        test("37 to 49: by the first ROOM, too", () -> {
+            BellPullHouse x = with(byFirst);
+            isCuts(x, 1, 2, 1, 1);
+            ok(x, "hangs", x.hangs(0), 3);
+            is(x, "lasts", x.lasts(0), 49, 64);
+            x.cut(1);
+            isMends(x, 1, 1, 2);
+        });
+        test("31: in a HOUSE of ten WIRES", () -> {
+            BellPullHouse x = with(TEN);
+            isWay(x, 0, 1, 0, 1);
+            isWay(x, 1, 0, 1, 0);
+        });
+        test("37 to 49: WIRES told from the far end on", () -> {
+            BellPullHouse x = with(BACKWARD);
+            ok(x, "far", x.far(0, 7), 70);
+            isCuts(x, 0, 7, 1, 1);
+            ok(x, "hangs", x.hangs(0), 127);
+            ok(x, "vital", x.vital(), 0);
+            is(x, "lasts", x.lasts(0), 170859375, 268435456);
+            ok(x, "game", x.game(0), 1);
+            ok(x, "game", x.game(1), 0);
+            ok(x, "game", x.game(2), 1);
+            x.rule(3, 69);
+            isMends(x, 1, 1, 1);
+            isCuts(x, 0, 7, 0, 0);
+            no(x, "hangs", x.hangs(0), 9);
+            x.rule(3, 7);
+            isMends(x, 1, 7, 127);
+        });
+        test("37 to 49: the same, from her to him", () -> {
+            BellPullHouse x = with(BACKWARD);
+            x.move(0, 0, 7);
+            x.move(0, 1, 0);
+            ok(x, "hangs", x.hangs(0), 127);
+            is(x, "lasts", x.lasts(0), 170859375, 268435456);
+            ok(x, "game", x.game(0), 1);
+            ok(x, "game", x.game(2), 1);
+            x.rule(3, 69);
+            isMends(x, 1, 1, 1);
+            x.rule(3, 7);
+            isMends(x, 1, 7, 127);
         });
     }
 
@@ -1160,6 +1224,29 @@ public final class BoundaryAskedTest {
             ok(x, "1", x.game(1), 0);
             ok(x, "2", x.game(2), 1);
             ok(x, "3", x.game(3), 0);
+        });
+        test("47: SLACK counts as long as none is mended", () -> {
+            BellPullHouse x = with("power 1;room a;room b;room c;room d;wire u from a to b slack 3;wire v from c to d;"
+                    + "couple m he a she b love 1;couple n he c she d love 1;");
+            ok(x, "0", x.game(0), 1);
+            ok(x, "1", x.game(1), 0);
+            ok(x, "moveOf", x.moveOf(1), 1);
+            ok(x, "2", x.game(2), 1);
+            ok(x, "3", x.game(3), 0);
+            x.stretch(0, 1);
+            ok(x, "0, SLACK 1", x.game(0), 1);
+            ok(x, "1, SLACK 1", x.game(1), 0);
+        });
+        test("47: SLACK 1 is mended, a cut WIRE is mended, never both in a turn", () -> {
+            BellPullHouse x = with("power 1;room a;room b;room c;room d;wire u from a to b slack 1;wire v from c to d;wire w from c to d;"
+                    + "couple m he a she b love 1;couple n he c she d love 1;");
+            ok(x, "0", x.game(0), 1);
+            ok(x, "1", x.game(1), 1);
+            ok(x, "2", x.game(2), 2);
+            ok(x, "3", x.game(3), 1);
+            x.cut(2);
+            ok(x, "2, one cut", x.game(2), 1);
+            ok(x, "3, one cut", x.game(3), 0);
         });
         test("47: without ROOMS", () -> {
             BellPullHouse x = new BellPullHouse();

@@ -604,6 +604,43 @@ public final class BoundaryTextTest {
             ok(x, "far", x.far(0, 1), 5);
             no(x, "live", x.live(0), 8);
         });
+        test("it is DAY 0, dry, all COUPLES HOLD, on no DAYS answered: behind all that looks ahead, too", () -> {
+            BellPullHouse x = with("room a;room b;couple m he a she a love 9;couple n he b she a love 9;");
+            x.damp(true);
+            years(x, "damp;day 3;");
+            x.day(2);
+            x.loveIn(0, 30);
+            x.partsIn(1);
+            x.silentIn(0);
+            x.holdIn(300);
+            x.mean(0, 3);
+            ok(x, "house", house(x, "room a;room b;couple m he a she b love 9;"), 1);
+            int[] many = {2, 0, 1, 8, 2, 0, 0, 0, 1, 0, 9};
+            for (int i = 0; i < many.length; i++) {
+                ok(x, "many(" + i + ")", x.many(i), many[i]);
+            }
+            x.loveIn(0, 30);
+            ok(x, "house", house(x, "room a;couple m he a she a love 9;couple n he a she a love 2;"), 2);
+            for (int c = 0; c < 2; c++) {
+                ok(x, "DAYS she answered him", x.couple(c, 5), 0);
+                ok(x, "DAYS she answered another one", x.couple(c, 6), 0);
+                ok(x, "HOLDS", x.couple(c, 3), 1);
+            }
+            ok(x, "RUNG", x.many(9), 3);
+            ok(x, "the DAY", x.many(5), 0);
+        });
+        test("FAR is measured anew in a HOUSE that is taken", () -> {
+            BellPullHouse x = with("room a;room b;wire u from a to b slack 4;");
+            ok(x, "far", x.far(0, 1), 5);
+            x.holdIn(1);
+            ok(x, "house", house(x, "room a;room b;room c;wire u from b to c;"), 0);
+            no(x, "far", x.far(0, 1), 8);
+            ok(x, "far", x.far(1, 2), 1);
+            x.holdIn(1);
+            ok(x, "house without WIRES", house(x, "room a;room b;room c;"), 0);
+            no(x, "far", x.far(1, 2), 8);
+            ok(x, "parts", x.parts(), 3);
+        });
         test("10: the old one stays", () -> {
             BellPullHouse x = with(OLD);
             x.day(2);

@@ -212,6 +212,14 @@ public final class BoundaryYearsTest {
             lives(x, 0, 2, 1, 3, 0, 0, 0);
             ok(x, "the DAY", x.many(5), 6);
         });
+        test("51: thirty STEPS, 25 of them loops with their ends", () -> {
+            BellPullHouse x = with(ONE, "loop 2;end;".repeat(25) + "dry;".repeat(5));
+            lives(x, 0, 30, 5, 0, 0, 0, 0);
+        });
+        test("51: thirty STEPS, the last of them within a loop", () -> {
+            BellPullHouse x = with(ONE, "loop 2;end;".repeat(24) + "loop 9;dry;dry;dry;dry;end;dry;");
+            lives(x, 0, 24 + 1 + 36 + 1, 37, 0, 0, 0, 0);
+        });
         test("51: thirty STEPS", () -> {
             BellPullHouse x = with(ONE, "day 1;".repeat(30));
             lives(x, 0, 30, 0, 30, 0, 0, 0);
@@ -884,6 +892,20 @@ public final class BoundaryYearsTest {
             isWire(x, 0, 0, 1);
             no(x, "the WIRE that was strung", x.wire(1, 0), 2);
             ok(x, "FAR", x.far(0, 1), 1);
+        });
+        test("55: on how many DAYS she answered him, another one, that it was damp", () -> {
+            BellPullHouse x = new BellPullHouse();
+            house(x, "room a;room b;couple m he a she a love 9;couple n he b she a love 9;");
+            x.damp(true);
+            x.day(2);
+            x.mark();
+            x.damp(false);
+            x.day(2);
+            ok(x, "back", x.back(), 0);
+            ok(x, "own", x.couple(0, 5), 2);
+            ok(x, "another one's", x.couple(1, 6), 2);
+            ok(x, "damp", x.many(6), 1);
+            ok(x, "the DAY", x.many(5), 2);
         });
         test("55: over a HOUSE that was taken since", () -> {
             BellPullHouse x = with(ONE, "day 2;cut u;");
