@@ -12,7 +12,7 @@ public final class PlainModelTest {
     private static long calls = 0;
 
     public static void main(String[] args) {
-        for (int seed = 0; seed < 700 && wrong < 20; seed++) {
+        for (int seed = 0; seed < 1400 && wrong < 20; seed++) {
             new Run(seed).go();
         }
         System.out.println(calls + " calls held against the plain model, " + wrong + " unlike");
@@ -1501,6 +1501,10 @@ public final class PlainModelTest {
         }
 
         void check(String f, int... a) {
+            // Each check makes two calls, and what an object answers behind its 512th is free.
+            if (made > 510) {
+                return;
+            }
             long due = p.call(f, a);
             long got;
             try {
@@ -1509,7 +1513,7 @@ public final class PlainModelTest {
                 e.printStackTrace(System.out);
                 got = Long.MIN_VALUE;
             }
-            made++;
+            made += 2;
             calls++;
             log.append(f).append(Arrays.toString(a)).append(" -> ").append(got).append('\n');
             if (got != due || x.status() != p.status) {

@@ -1,7 +1,8 @@
 /**
  * "A call with another STATUS than 0 gives NONE, or false, and changes nothing but STATUS (but house(),
  * years() with 10 the tape, and what fault() tells)": each call that can be refused, by each STATUS, is
- * made on one of two objects that are alike; all that they tell must be alike then, too.
+ * made on one of two objects that are alike; all that they tell must be alike then, too. So are the
+ * calls that only ask.
  */
 public final class RefusalTest {
     private static final int LEAST = Integer.MIN_VALUE;
@@ -37,7 +38,9 @@ public final class RefusalTest {
         onFaulty();
         onParted();
         thatFault();
-        System.out.println(tests + " refused calls, " + broken + " broken");
+        onlyAsked("in a rich HOUSE", RefusalTest::rich, 0, 0, 1);
+        onlyAsked("in a full HOUSE", RefusalTest::full, 5, 0, 7);
+        System.out.println(tests + " calls that change nothing, " + broken + " broken");
         if (broken != 0) {
             System.exit(1);
         }
@@ -232,24 +235,41 @@ public final class RefusalTest {
     private static void refuses(String where, State state, String words, int status, Call call, boolean textsToo) {
         tests++;
         BellPullHouse x = state.make();
-        BellPullHouse twin = state.make();
         long answer = call.on(x);
         int why = x.status();
-        tellAll(twin, textsToo);
+        boolean leaves = leavesAll(state, x, textsToo);
+        if (answer != -1 || why != status || !leaves) {
+            broken++;
+            System.out.println(where + ", " + words + ": answered " + answer + " by STATUS " + why + ", due is NONE by "
+                    + status + (leaves ? "" : ", and that nothing changes"));
+        }
+    }
+
+    /** A call that is done, but only asks. */
+    private static void asks(String where, State state, String words, Call call) {
+        tests++;
+        BellPullHouse x = state.make();
+        call.on(x);
+        int why = x.status();
+        boolean leaves = leavesAll(state, x, true);
+        if (why != 0 || !leaves) {
+            broken++;
+            System.out.println(where + ", " + words + ": STATUS " + why + ", due is 0" + (leaves ? "" : ", and that nothing changes"));
+        }
+    }
+
+    /** Whether all that it tells is as an object tells it on which no more was done. */
+    private static boolean leavesAll(State state, BellPullHouse x, boolean textsToo) {
+        tellAll(state.make(), textsToo);
         long[] due = java.util.Arrays.copyOf(told, manyTold);
         tellAll(x, textsToo);
-        boolean holds = answer == -1 && why == status && due.length == manyTold;
-        int unlike = -1;
         for (int i = 0; i < due.length && i < manyTold; i++) {
-            if (due[i] != told[i] && unlike < 0) {
-                unlike = i;
+            if (due[i] != told[i]) {
+                System.out.println("what is told as the " + i + "th is " + told[i] + ", was " + due[i]);
+                return false;
             }
         }
-        if (!holds || unlike >= 0) {
-            broken++;
-            System.out.println(where + ", " + words + ": answered " + answer + " by STATUS " + why + ", due is NONE by " + status
-                    + (unlike < 0 ? "" : "; what is told as the " + unlike + "th is " + told[unlike] + ", was " + due[unlike]));
-        }
+        return due.length == manyTold;
     }
 
     private static long no(boolean answer) {
@@ -468,6 +488,50 @@ public final class RefusalTest {
         refuses(in, s, "silentIn", 8, x -> x.silentIn(0));
         refuses(in, s, "move", 9, x -> x.move(0, 1, 0));
         refuses(in, s, "string", 5, x -> x.string(0, 0));
+    }
+
+    private static void onlyAsked(String in, State s, int couple, int room, int other) {
+        asks(in, s, "read", x -> x.read(0, 0));
+        asks(in, s, "many", x -> x.many(9));
+        asks(in, s, "wire", x -> x.wire(1, 2));
+        asks(in, s, "couple", x -> x.couple(couple, 5));
+        asks(in, s, "far", x -> x.far(room, other));
+        asks(in, s, "heard", x -> x.heard(room));
+        asks(in, s, "rings", x -> x.rings(couple));
+        asks(in, s, "way", x -> x.way(room, other, 1));
+        asks(in, s, "parts", x -> x.parts());
+        asks(in, s, "loveIn", x -> x.loveIn(couple, 300));
+        asks(in, s, "holdIn", x -> x.holdIn(300));
+        asks(in, s, "partsIn", x -> {
+            x.partsIn(couple);
+            return x.many(0);
+        });
+        asks(in, s, "silentIn", x -> {
+            x.silentIn(couple);
+            return x.many(0);
+        });
+        asks(in, s, "mends", x -> x.mends(0));
+        asks(in, s, "mendSet", x -> {
+            x.mendSet(7);
+            return x.many(0);
+        });
+        asks(in, s, "cuts", x -> x.cuts(room, other));
+        asks(in, s, "cutSet", x -> x.cutSet(room, other));
+        asks(in, s, "hangs", x -> {
+            x.hangs(couple);
+            return x.many(0);
+        });
+        asks(in, s, "vital", x -> x.vital());
+        asks(in, s, "pulled", x -> x.pulled(3));
+        asks(in, s, "crossed", x -> x.crossed(room));
+        asks(in, s, "pair", x -> {
+            x.pair(couple);
+            return x.many(0);
+        });
+        asks(in, s, "swapped", x -> x.swapped());
+        asks(in, s, "game", x -> x.game(3));
+        asks(in, s, "moveOf", x -> x.moveOf(3));
+        asks(in, s, "lived", x -> x.lived(4));
     }
 
     /** With 10 the tape and what fault() tells change, and nothing else. */
